@@ -6,6 +6,7 @@ public final class BestTest {
         mistake();
         live();
         liveTies();
+        liveInEachWay();
         liveWithMany();
         hide();
         hideByEarlierDays();
@@ -34,6 +35,7 @@ public final class BestTest {
         x.day();
         Due.due("those at home stay there", x.count(2), 3);
         Due.due("those at home count", x.mistake(0, 1), 3);
+        Due.due("mistake 40", x.mistake(40, 1), 3);
         Due.due("mistake 41", x.mistake(41, 0), -2);
         Due.due("mistake what 2", x.mistake(0, 2), -2);
         for (int far : FAR) {
@@ -89,6 +91,36 @@ public final class BestTest {
         x.send(1, 0);
         Due.due("at 7, where 0 should live", x.live(1, 0), 83571);
         Due.due("both at once", x.live(1, 1), 2);
+    }
+
+    /** Five letters at five houses: in each of the 120 ways once all are where they should be. */
+    private static void liveInEachWay() {
+        int[] houses = {4, 0, 7, 2, 5};
+        for (int way = 0; way < 3125; way++) {
+            int[] wanted = new int[5];
+            int left = way;
+            int taken = 0;
+            int digits = 0;
+            for (int one = 0; one < 5; one++) {
+                wanted[one] = houses[left % 5];
+                left /= 5;
+                taken |= 1 << wanted[one];
+                digits = digits * 10 + wanted[one] + 1;
+            }
+            if (Integer.bitCount(taken) < 5) {
+                continue;
+            }
+            NextHouseUp x = new NextHouseUp();
+            for (int one = 0; one < 5; one++) {
+                x.person(4, 9, houses[one]);
+            }
+            for (int one = 0; one < 5; one++) {
+                x.set(1, 0, (wanted[one] - houses[one] + 8) % 8);
+                x.send((one + 1) % 5, one);
+            }
+            Due.due("live as wanted", x.live(1, 0), digits);
+            Due.due("all are home then", x.live(1, 1), 5);
+        }
     }
 
     private static void liveWithMany() {

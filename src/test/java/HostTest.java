@@ -50,6 +50,8 @@ public final class HostTest {
         y.person(0, 0, 6);
         Due.due("all 0 again: a neighbour into house 0", y.hill(3, 2, 0, 1), 1);
         Due.due("in house 0", y.told(3, 5), 0);
+        Due.due("a neighbour", y.told(3, 4), 0);
+        Due.due("whose number is 0", y.told(3, 2), 0);
     }
 
     private static void cell() {

@@ -115,7 +115,7 @@ public final class ModelTest {
     private String anE(int depth) {
         int d = draw(depth > 3 ? 3 : 9);
         switch (d) {
-            case 0: return Integer.toString(draw(4) == 0 ? draw(10000) : draw(60));
+            case 0: return Integer.toString(draw(4) == 0 ? draw(10000) : draw(2) == 0 ? draw(60) : draw(3));
             case 1:
             case 2: return TOKENS[draw(6)];
             case 3: return "-" + anE(depth + 1);

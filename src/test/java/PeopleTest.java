@@ -80,6 +80,10 @@ public final class PeopleTest {
         Due.due("set tone -1", x.set(3, 0, -1), -2);
         Due.due("set tone of 1", x.set(3, 1, 1), -2);
         Due.due("tone stayed", x.told(0, 3), 0);
+        for (int what : new int[] {-2, -1, 4, 5, 6, 7, 8, 9, 10, 11}) {
+            Due.due("set what " + what, x.set(what, 0, 1), -2);
+        }
+        Due.due("house stayed", x.told(0, 5), 0);
         x.day();
         x.day();
         Due.due("home", x.told(0, 9), -1);
@@ -210,6 +214,7 @@ public final class PeopleTest {
     private static void carries() {
         carry(0, 0, "1", false, 0, 0, 1);
         carry(0, 0, "0", false, 99, 0, 0);
+        carry(0, 0, "0", true, 99, 0, 0);
         carry(0, 0, "-1", false, 0, 0, 1);
         carry(0, 0, "-999", true, 0, 0, 1);
         carry(0, 0, "999", true, 0, 0, 1);

@@ -8,6 +8,7 @@ public final class TextsTest {
         faults();
         opens();
         fullTexts();
+        longTexts();
         values();
         names();
         force();
@@ -82,6 +83,7 @@ public final class TextsTest {
         fault("carries 1;softens 5;", 20);
         fault(SOUND + " x", 31);
         fault(SOUND + ";", 30);
+        fault(SOUND + "5", 30);
         fault(SOUND + "carries", 30);
         fault("softens 5;carries 1;writes 40;", 0);
         fault("carries 1;carries 1;writes 40;", 10);
@@ -97,6 +99,12 @@ public final class TextsTest {
         faultIn("1 2;", 2);
         faultIn("toner;", 0);
         faultIn("ton;", 0);
+        faultIn("mouse;", 0);
+        faultIn("lead;", 0);
+        faultIn("tonez;", 0);
+        faultIn("(x);", 1);
+        faultIn("-x;", 1);
+        faultIn("not x;", 4);
         faultIn("tone1;", 4);
         faultIn("Tone;", 0);
         faultIn("tone tone;", 5);
@@ -160,6 +168,39 @@ public final class TextsTest {
         Due.due("the tape stays", x.count(4), SOUND.length());
         Due.due("a byte more", x.feed('?'), SOUND.length() + 1);
         Due.due("a seventh with a fault", x.text(), -4);
+    }
+
+    /** Five texts as long as can be, with faulty ones between, each told apart by what it writes. */
+    private static void longTexts() {
+        NextHouseUp x = new NextHouseUp();
+        x.person(0, 9, 7);
+        x.person(0, 0, 3);
+        x.send(0, 1);
+        for (int i = 1; i <= 5; i++) {
+            StringBuilder text = new StringBuilder("carries mine=1;softens mine+");
+            text.append(i).append(";writes ").append(i * 9);
+            while (text.length() < 158) {
+                text.append("+0");
+            }
+            text.append(';');
+            Due.due("a fault", Due.text(x, "carries 7*9+8;softens 77 ?"), -125);
+            Due.due("a long text", Due.text(x, text.toString()), i);
+        }
+        for (int i = 5; i >= 1; i--) {
+            x.force(i);
+            Due.due("carries by " + i, x.asks(0, 0, 0), 1);
+            Due.due("carries by " + i, x.asks(1, 0, 0), 0);
+            Due.due("softens by " + i, x.asks(0, 0, 1), i + 1);
+            Due.due("softens by " + i, x.asks(1, 0, 1), i);
+            Due.due("writes by " + i, x.writes(0), i * 9);
+        }
+        x.force(0);
+        Due.due("softens by the first", x.asks(1, 0, 1), 5);
+        NextHouseUp y = new NextHouseUp();
+        y.person(0, 0, 0);
+        Due.due("a fault", Due.text(y, "carries 1;softens 2;writes -3 ?"), -130);
+        Due.rule(y, "carries 1;softens 2;writes 3;");
+        Due.due("nothing is left of it", y.writes(0), 3);
     }
 
     /** What an E is, as softens tells it of a neighbour. */
