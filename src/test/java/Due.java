@@ -1,16 +1,30 @@
 /** Counts and prints the calls whose answer is not the one that is due. */
 final class Due {
+    /** A class that is quite wrong does not fill the screen. */
+    private static final int MOST_PRINTED = 60;
     private static int wrong = 0;
     private static int asked = 0;
+    private static String holding = "";
 
     private Due() {
+    }
+
+    /** What is due from here on holds this sentence of the document; it is printed ahead of what is wrong. */
+    static void holding(String sentence) {
+        holding = sentence;
+    }
+
+    static int asked() {
+        return asked;
     }
 
     static void due(String call, long got, long want) {
         asked++;
         if (got != want) {
             wrong++;
-            System.out.println(call + " answered " + got + ", due is " + want);
+            if (wrong <= MOST_PRINTED) {
+                System.out.println(holding + call + " answered " + got + ", due is " + want);
+            }
         }
     }
 
