@@ -231,10 +231,10 @@ public final class ToldTest {
     }
 
     private static void chance() {
-        NextHouseUp x = crowd();
         int[] seeds = {0, 1, -7, 123456789, Integer.MAX_VALUE - 3};
         for (int seed : seeds) {
             for (int m = 1; m <= 20; m++) {
+                NextHouseUp x = crowd();
                 for (int k = 0; k <= 8; k++) {
                     int those = 0;
                     for (int i = 0; i < m; i++) {
@@ -246,6 +246,7 @@ public final class ToldTest {
                 }
             }
         }
+        NextHouseUp x = crowd();
         int[][] bad = {{0, 0, 0}, {21, 0, 0}, {-1, 0, 0}, {1, 9, 0}, {1, -1, 0}, {1, 0, 2}, {1, 0, -1}};
         for (int[] b : bad) {
             Due.due("chance bad", x.chance(0, b[0], b[1], b[2]), NextHouseUp.NO);
