@@ -807,7 +807,7 @@ public final class NextHouseUp {
             return readBy(letter);
         }
 
-        /** Days pass until a letter is not where the sheet tells it. */
+        /** Days pass until a letter is not where the sheet tells it (by passDayOf() calls would go too deep). */
         int firstOtherwise(Sheet row, int letter) {
             for (int i = 0; i < row.size; i++) {
                 goesDown(letter);
